@@ -1,0 +1,1163 @@
+/** For each promise of the document: ordinary inputs, the edges that it names, and wrong inputs. */
+public final class PromisesTest {
+    private static final int BAD = -1, NOT = -2, FULL = -3, NONE = -4, NULL = -11, CAST = -12, INDEX = -13, SIZE = -14;
+    private static final int LOW = Integer.MIN_VALUE, HIGH = Integer.MAX_VALUE;
+
+    private static int promise = 0;
+    private static int row = 0;
+    private static int wrong = 0;
+
+    private static void begin(int number) {
+        promise = number;
+        row = 0;
+    }
+
+    private static void due(long got, long want) {
+        row++;
+        if (got != want) {
+            wrong++;
+            int line = new Throwable().getStackTrace()[1].getLineNumber();
+            System.out.println("promise " + promise + ", row " + row + " (line " + line + "): answered " + got
+                    + ", due is " + want);
+        }
+    }
+
+    private static int typed(BlindBuff x, String text) {
+        for (int i = 0; i < text.length(); i++) {
+            x.type(text.charAt(i));
+        }
+        return x.city();
+    }
+
+    private static BlindBuff of(String text) {
+        BlindBuff x = new BlindBuff();
+        due(typed(x, text) > 0 ? 1 : 0, 1);
+        return x;
+    }
+
+    /** Everything that can be asked of the city itself, as one text. */
+    private static String all(BlindBuff x) {
+        StringBuilder b = new StringBuilder();
+        for (int what = 0; what <= 9; what++) {
+            b.append(x.count(what)).append(' ');
+        }
+        for (int p = 0; p < x.count(2); p++) {
+            for (int what = 0; what <= 8; what++) {
+                b.append(x.of(p, what)).append(' ');
+            }
+        }
+        int draw = x.seed(0);
+        x.seed(draw);
+        return b.append(draw).toString();
+    }
+
+    private static void same(BlindBuff x, String was) {
+        due(all(x).equals(was) ? 1 : 0, 1);
+    }
+
+    private static void aNewObject() {
+        begin(1);
+        BlindBuff x = new BlindBuff();
+        int[] first = {4, 5, 0, 0, 0, 0, 0, 0, NONE, 0};
+        for (int what = 0; what < first.length; what++) {
+            due(x.count(what), first[what]);
+        }
+        due(x.seed(1), 1);
+        due(x.restore(), NONE);
+        due(x.undo(), NONE);
+        due(x.city(), -20);
+        for (int s = 0; s < 4; s++) {
+            due(x.drop(s), NULL);
+        }
+        due(x.person(0, 20, 0, 0), BAD);
+        due(x.person(0, 19, 0, 0), 0);
+    }
+
+    private static void streets() {
+        begin(2);
+        BlindBuff x = of("3x4@12;p009a");
+        x.minutes(2);
+        x.seed(77);
+        String was = all(x);
+        int[][] bad = {{1, 2}, {7, 2}, {2, 1}, {2, 7}, {0, 0}, {-3, 3}, {LOW, 3}, {3, LOW}, {HIGH, 3}, {3, HIGH}};
+        for (int[] pair : bad) {
+            due(x.streets(pair[0], pair[1]), BAD);
+        }
+        same(x, was);
+        x.minutes(1);
+        due(x.count(5), 1);
+        due(x.count(6), 1);
+        due(x.streets(3, 5), 15);
+        int[] fresh = {3, 5, 0, 0, 0, 0, 0, 0, NONE, 0};
+        for (int what = 0; what < fresh.length; what++) {
+            due(x.count(what), fresh[what]);
+        }
+        due(x.undo(), NONE);
+        due(x.seed(77), 77);
+        due(x.streets(2, 2), 4);
+        due(x.streets(6, 6), 36);
+        due(x.streets(2, 6), 12);
+        due(x.count(0), 2);
+        due(x.count(1), 6);
+        due(x.person(0, 11, 3, 0), 0);
+        due(x.person(0, 12, 3, 0), BAD);
+        // whoever was CAUGHT there is nobody here
+        due(x.of(0, 5), 0);
+    }
+
+    private static void person() {
+        begin(3);
+        BlindBuff x = new BlindBuff();
+        int[][] bad = {{-1, 0, 0, 0}, {5, 0, 0, 0}, {0, -1, 0, 0}, {0, 20, 0, 0}, {0, 0, -1, 0}, {0, 0, 10, 0},
+            {0, 0, 0, -1}, {0, 0, 0, 64}, {LOW, 0, 0, 0}, {0, LOW, 0, 0}, {0, 0, HIGH, 0}, {0, 0, 0, HIGH}};
+        for (int[] a : bad) {
+            due(x.person(a[0], a[1], a[2], a[3]), BAD);
+        }
+        due(x.count(2), 0);
+        due(x.person(4, 19, 9, 63), 0);
+        int[] told = {4, 19, 9, 63, 0, 0};
+        for (int what = 0; what < told.length; what++) {
+            due(x.of(0, what), told[what]);
+        }
+        x.rule(0, 1, 5);
+        x.minutes(3);
+        due(x.count(9), 3);
+        due(x.person(-1, 0, 0, 0), BAD);
+        due(x.count(9), 3);
+        due(x.person(0, 0, 0, 0), 1);
+        due(x.count(9), 0);
+        due(x.count(4), 3);
+        due(x.of(0, 4), 5);
+        for (int p = 2; p < 6; p++) {
+            due(x.person(p - 1, p, p, p), p);
+        }
+        x.minutes(1);
+        due(x.person(0, 0, 0, 0), FULL);
+        due(x.person(0, 0, 0, 64), BAD);
+        due(x.count(2), 6);
+        due(x.count(9), 1);
+        // a number that is used again has no old DISGUISE
+        x.streets(4, 5);
+        x.person(0, 0, 0, 0);
+        due(x.of(0, 4), 0);
+    }
+
+    private static void ofAPerson() {
+        begin(4);
+        BlindBuff x = of("6x6@00;p129,p052,s128bd,b052,h409,l203");
+        int[][] due = {
+            // kind, cell, noise, look, disguise, caught, far, loud, named
+            {0, 8, 9, 0, 0, 0, 3, 6, 0},
+            {0, 5, 2, 0, 0, 0, 5, 0, 0},
+            {1, 8, 8, 10, 0, 0, 3, 2, 2},
+            {2, 5, 2, 0, 0, 0, 5, 4, 0},
+            {3, 24, 9, 0, 0, 0, 4, 0, 0},
+            {4, 12, 3, 0, 0, 0, 2, 10, 0}};
+        for (int p = 0; p < 6; p++) {
+            for (int what = 0; what < 9; what++) {
+                due(x.of(p, what), due[p][what]);
+            }
+        }
+        due(x.of(-1, 0), BAD);
+        due(x.of(6, 0), BAD);
+        due(x.of(LOW, 0), BAD);
+        due(x.of(HIGH, 0), BAD);
+        due(x.of(0, -1), BAD);
+        due(x.of(0, 9), BAD);
+        due(x.of(0, LOW), BAD);
+        due(x.of(0, HIGH), BAD);
+
+        BlindBuff h = of("6x6@00;h409");
+        due(h.of(0, 7), 0);
+        h.minutes(1);
+        due(h.of(0, 7), 2);
+        h.minutes(1);
+        due(h.of(0, 6), 3);
+        due(h.of(0, 7), 0);
+
+        BlindBuff l = of("6x6@00;l035,l023,l003");
+        due(l.of(0, 7), 6);
+        due(l.of(1, 7), 10);
+        due(l.of(2, 7), 14);
+
+        // CAUGHT or not, one is as LOUD; what FEELS as others is NAMED as the first of them
+        BlindBuff c = of("2x2@00;p005a,p003ab,p110c");
+        c.minutes(1);
+        due(c.of(0, 5), 1);
+        due(c.of(0, 7), 5);
+        c.rule(0, 1, 2);
+        due(c.of(0, 8), 1);
+        c.rule(2, 1, 4);
+        due(c.of(2, 8), 0);
+        c.rule(1, 1, 2);
+        due(c.of(1, 8), 0);
+        c.rule(1, 1, 0);
+        due(c.of(1, 8), 1);
+    }
+
+    private static void rule() {
+        begin(5);
+        BlindBuff x = of("2x3@00;p125ab,s001");
+        due(x.rule(0, 0, 9), 5);
+        due(x.rule(0, 0, 0), 9);
+        due(x.rule(0, 0, 4), 0);
+        due(x.of(0, 2), 4);
+        due(x.rule(1, 1, 63), 0);
+        due(x.rule(1, 1, 0), 63);
+        due(x.rule(1, 1, 17), 0);
+        due(x.of(1, 4), 17);
+        due(x.of(1, 3), 0);
+        String was = all(x);
+        int[][] bad = {{-1, 0, 1}, {2, 0, 1}, {0, -1, 1}, {0, 2, 1}, {0, 0, -1}, {0, 0, 10}, {0, 1, -1}, {0, 1, 64},
+            {LOW, 0, 0}, {HIGH, 0, 0}, {0, LOW, 0}, {0, HIGH, 0}, {0, 0, LOW}, {0, 1, HIGH}};
+        for (int[] a : bad) {
+            due(x.rule(a[0], a[1], a[2]), BAD);
+        }
+        same(x, was);
+        // CAUGHT ones, too
+        due(x.rule(0, 0, 0), 4);
+        x.minutes(1);
+        due(x.count(5), 2);
+        due(x.rule(1, 0, 7), 1);
+        due(x.rule(1, 1, 1), 17);
+    }
+
+    private static void type() {
+        begin(6);
+        BlindBuff x = new BlindBuff();
+        int[] bad = {31, 127, 0, -1, 10, 255, LOW, HIGH, 65536 + 50};
+        for (int letter : bad) {
+            due(x.type(letter), BAD);
+        }
+        due(x.type(32), 1);
+        due(x.type(126), 2);
+        for (int n = 3; n <= 90; n++) {
+            due(x.type(n % 2 == 0 ? 'q' : ' '), n);
+        }
+        due(x.type('a'), FULL);
+        due(x.type(31), BAD);
+        due(x.city(), -21);
+        due(x.type('a'), 1);
+        x.streets(2, 2);
+        due(x.type('a'), 2);
+    }
+
+    private static void cityOf(String text, int want) {
+        BlindBuff x = new BlindBuff();
+        x.person(1, 7, 3, 9);
+        x.minutes(2);
+        String was = all(x);
+        due(typed(x, text), want);
+        if (want < 0) {
+            same(x, was);
+        }
+        due(x.type('a'), 1);
+    }
+
+    private static void city() {
+        begin(7);
+        BlindBuff x = of("2x2@01;p009");
+        x.minutes(1);
+        x.rule(0, 1, 9);
+        x.seed(5);
+        due(x.count(5), 1);
+        due(typed(x, "4x6@25;p002,s351abcdef,b043b,h009af,l316c"), 5);
+        int[] counts = {4, 6, 5, 17, 0, 0, 0, 0};
+        for (int what = 0; what < counts.length; what++) {
+            due(x.count(what), counts[what]);
+        }
+        due(x.count(9), 0);
+        due(x.seed(5), 5);
+        int[][] people = {{0, 0, 2, 0}, {1, 23, 1, 63}, {2, 4, 3, 2}, {3, 0, 9, 33}, {4, 19, 6, 4}};
+        for (int p = 0; p < people.length; p++) {
+            for (int what = 0; what < 4; what++) {
+                due(x.of(p, what), people[p][what]);
+            }
+            due(x.of(p, 4), 0);
+            due(x.of(p, 5), 0);
+        }
+        cityOf("2x2@00;p000", 1);
+        cityOf("6x6@55;p000,p010,p020,p030,p040,p550f", 6);
+        cityOf("  2 x 2 @ 0 0 ; p 0 0 0 a f , s 1 1 9  ", 2);
+        cityOf("", -20);
+        cityOf("   ", -23);
+        cityOf("  y", -22);
+        cityOf("1x2@00;p000", -20);
+        cityOf("7x2@00;p000", -20);
+        cityOf("2X2@00;p000", -21);
+        cityOf("2x1@00;p000", -22);
+        cityOf("2x7@00;p000", -22);
+        cityOf("2x2;p000", -23);
+        cityOf("2x3@20;p000", -24);
+        cityOf("2x3@03;p000", -25);
+        cityOf("2x3@12;p12", -30);
+        cityOf("2x3@12,p120", -26);
+        cityOf("2x3@12;", -27);
+        cityOf("2x3@12;q120", -27);
+        cityOf("2x3@12;p220", -28);
+        cityOf("2x3@12;p130", -29);
+        cityOf("2x3@12;p12a", -30);
+        cityOf("2x3@12;p120ba", -32);
+        cityOf("2x3@12;p120aa", -32);
+        cityOf("2x3@12;p120g", -31);
+        cityOf("2x3@12;p120ag", -32);
+        cityOf("2x3@12;p120A", -31);
+        cityOf("2x3@12;p1200", -31);
+        cityOf("2x3@12;p120,", -32);
+        cityOf("2x3@12;p120,  ", -34);
+        cityOf("2x3@12;p120;", -31);
+        cityOf("2x3@12;p120  b  a", -36);
+        cityOf("2x2@00;p000,p000,p000,p000,p000,p000,p000", -56);
+        cityOf("2x2@00;p000,p000,p000,p000,p000,p000 , p000", -57);
+        cityOf("2x2@00;p000,p000,p000,p000,p000,p000a b f x", -62);
+    }
+
+    private static void count() {
+        begin(8);
+        BlindBuff x = of("3x4@12;p035a,p005,s219");
+        int[] first = {3, 4, 3, 6, 0, 0, 0, 0, 1, 0};
+        // PLAIN 0 is LOUD by 5 - 2, PLAIN 1 by 5 - 3, SOFT 2 by (9 - 2) / 2: he follows the first of 3 and 3
+        first[8] = 0;
+        for (int what = 0; what < first.length; what++) {
+            due(x.count(what), first[what]);
+        }
+        x.minutes(2);
+        due(x.count(3), 3);
+        due(x.count(4), 2);
+        due(x.count(5), 1);
+        due(x.count(6), 1);
+        due(x.count(7), 0);
+        due(x.count(9), 2);
+        x.rule(1, 1, 1);
+        due(x.count(8), 1);
+        x.minutes(3);
+        due(x.count(3), 0);
+        due(x.count(5), 3);
+        due(x.count(6), 1);
+        due(x.count(7), 1);
+        due(x.count(8), 2);
+        x.rule(2, 0, 4);
+        due(x.count(8), NONE);
+        x.minutes(40);
+        due(x.count(9), 8);
+        due(x.count(-1), BAD);
+        due(x.count(10), BAD);
+        due(x.count(LOW), BAD);
+        due(x.count(HIGH), BAD);
+    }
+
+    private static void minutes() {
+        begin(9);
+        // ROWS first, then COLUMNS, both ways
+        BlindBuff x = of("4x4@03;p309");
+        int[] path = {7, 11, 15, 14, 13, 12};
+        for (int m = 0; m < path.length; m++) {
+            due(x.minutes(1), m == 5 ? 1 : 0);
+            due(x.count(3), path[m]);
+            due(x.count(4), m + 1);
+        }
+        due(x.count(6), 1);
+        BlindBuff up = of("4x4@30;p039");
+        int[] back = {8, 4, 0, 1, 2, 3};
+        for (int m = 0; m < back.length; m++) {
+            due(up.minutes(1), m == 5 ? 1 : 0);
+            due(up.count(3), back[m]);
+        }
+        // one in a MINUTE, the first; who is not heard is CAUGHT too, where he stands
+        BlindBuff crowd = of("2x2@00;p000a,p000ab,p000ab");
+        due(crowd.count(8), NONE);
+        due(crowd.minutes(1), 1);
+        due(crowd.minutes(1), 3);
+        due(crowd.count(7), 0);
+        due(crowd.minutes(1), 7);
+        due(crowd.count(6), 2);
+        due(crowd.count(7), 1);
+        due(crowd.minutes(1), 7);
+        due(crowd.count(6) + crowd.count(7), 3);
+        // on his way he catches another one than whom he follows
+        BlindBuff way = of("2x4@00;p039,p010");
+        due(way.minutes(1), 2);
+        due(way.minutes(2), 3);
+        // of like LOUD ones the first; a CAUGHT one is not followed
+        BlindBuff like = of("2x4@01;p005,p025");
+        due(like.minutes(1), 1);
+        due(like.minutes(2), 3);
+        // BREATHLESS: he stays in even MINUTES
+        BlindBuff h = of("2x6@00;h059");
+        due(h.minutes(1), 0);
+        due(h.count(3), 0);
+        due(h.minutes(1), 0);
+        due(h.count(3), 1);
+        due(h.minutes(1), 0);
+        due(h.count(3), 1);
+        due(h.minutes(6), 0);
+        due(h.minutes(1), 1);
+        due(h.count(4), 10);
+
+        int[] bad = {0, 41, -1, LOW, HIGH};
+        for (int n : bad) {
+            due(h.minutes(n), BAD);
+        }
+        due(h.count(4), 10);
+        for (int i = 0; i < 249; i++) {
+            due(h.minutes(40), 1);
+        }
+        due(h.minutes(30), FULL);
+        due(h.minutes(41), BAD);
+        due(h.count(4), 9970);
+        due(h.minutes(29), 1);
+        due(h.count(4), 9999);
+        due(h.minutes(1), FULL);
+        due(h.ahead(60, 1), 1);
+        due(h.drift(1), FULL);
+    }
+
+    private static void walk() {
+        begin(10);
+        BlindBuff x = of("2x3@00;p110,p000");
+        due(x.walk(0, 0), 1);
+        due(x.walk(0, 0), NOT);
+        due(x.walk(0, 3), 2);
+        due(x.walk(0, 3), NOT);
+        due(x.walk(0, 1), 5);
+        due(x.walk(0, 1), NOT);
+        due(x.walk(0, 2), 4);
+        due(x.walk(0, 2), 3);
+        due(x.walk(0, 2), NOT);
+        due(x.of(0, 1), 3);
+        due(x.count(9), 5);
+        due(x.count(4), 0);
+        due(x.count(5), 0);
+        x.minutes(1);
+        due(x.count(5), 2);
+        due(x.walk(1, 1), NOT);
+        due(x.of(1, 1), 0);
+        due(x.count(9), 6);
+        int[][] bad = {{-1, 0}, {2, 0}, {0, -1}, {0, 4}, {1, 4}, {LOW, 0}, {HIGH, 0}, {0, LOW}, {0, HIGH}};
+        for (int[] a : bad) {
+            due(x.walk(a[0], a[1]), BAD);
+        }
+        // onto his CELL: CAUGHT only in the next MINUTE
+        due(x.walk(0, 0), 0);
+        due(x.count(5), 2);
+        due(x.minutes(1), 3);
+    }
+
+    private static void free() {
+        begin(11);
+        BlindBuff x = of("2x2@00;p000,p000,p110");
+        due(x.free(0), NOT);
+        due(x.minutes(2), 3);
+        due(x.free(2), NOT);
+        due(x.free(0), 2);
+        due(x.of(0, 5), 0);
+        due(x.free(0), NOT);
+        due(x.count(9), 3);
+        due(x.free(1), 0);
+        due(x.count(6), 1);
+        due(x.count(7), 1);
+        int[] bad = {-1, 3, LOW, HIGH};
+        for (int p : bad) {
+            due(x.free(p), BAD);
+        }
+        due(x.minutes(1), 1);
+        due(x.count(6), 2);
+    }
+
+    private static void drift() {
+        begin(12);
+        BlindBuff x = new BlindBuff();
+        due(x.drift(1), NOT);
+        due(x.drift(0), BAD);
+        due(x.drift(41), BAD);
+        due(x.drift(LOW), BAD);
+        due(x.drift(HIGH), BAD);
+        due(x.seed(1), 1);
+        // 16838, 5758, 10113, 17515 left over by 3: 2, 1, 0, 1; the ways: down (no such CELL), down, down, to the left
+        typed(x, "4x4@00;p110,p220,p330");
+        int[] draws = {1103527590, 377401575, 662824084, 1147902781};
+        int[][] cells = {{5, 10, 15}, {5, 14, 15}, {9, 14, 15}, {9, 13, 15}};
+        for (int m = 0; m < draws.length; m++) {
+            due(x.drift(1), 0);
+            due(x.seed(draws[m]), draws[m]);
+            for (int p = 0; p < 3; p++) {
+                due(x.of(p, 1), cells[m][p]);
+            }
+            due(x.count(4), m + 1);
+        }
+        due(x.count(9), 4);
+        BlindBuff y = of("4x4@00;p110,p220,p330");
+        due(y.drift(4), 0);
+        due(y.seed(0), draws[3]);
+        due(y.of(0, 1), cells[3][0]);
+        due(y.of(1, 1), cells[3][1]);
+        due(y.of(2, 1), cells[3][2]);
+        due(y.count(9), 4);
+        // who is CAUGHT stays where it is, but THE DRAW goes on
+        BlindBuff z = of("2x2@00;p000");
+        due(z.minutes(1), 1);
+        due(z.drift(40), 1);
+        due(z.of(0, 1), 0);
+        due(z.count(4), 41);
+        due(z.drift(40), 1);
+        due(z.count(9), 8);
+        // the walk comes ahead of the MINUTE: up there is no CELL, but to the left it is he who stands there
+        BlindBuff w = of("2x2@00;p010");
+        due(w.seed(0), 1);
+        due(w.drift(1), 0);
+        due(w.of(0, 1), 1);
+        due(w.seed(2), 12345);
+        due(w.drift(1), 1);
+        due(w.seed(1), 59559187);
+        due(w.of(0, 1), 0);
+        due(w.count(6), 1);
+    }
+
+    private static void undo() {
+        begin(13);
+        BlindBuff x = of("3x3@00;p229a,p020a");
+        String a = all(x);
+        x.walk(1, 1);
+        String b = all(x);
+        x.minutes(3);
+        x.free(1);
+        due(x.count(9), 4);
+        x.minutes(1);
+        x.undo();
+        x.undo();
+        x.undo();
+        due(x.count(4), 1);
+        due(x.undo(), 1);
+        same(x, b);
+        due(x.undo(), 0);
+        same(x, a);
+        due(x.undo(), NONE);
+        same(x, a);
+
+        // LET GO is UNDONE; RIGHT, WRONG are as they were
+        BlindBuff f = of("2x2@00;p000a,p000a");
+        f.minutes(2);
+        due(f.count(7), 1);
+        due(f.free(0), 2);
+        due(f.undo(), 2);
+        due(f.count(5), 3);
+        due(f.undo(), 1);
+        due(f.count(5), 1);
+        due(f.count(6), 1);
+        due(f.count(7), 0);
+        // what was told since stays, but for THE DRAW
+        f.seed(99);
+        f.minutes(1);
+        f.seed(5);
+        f.rule(0, 0, 7);
+        f.rule(1, 1, 33);
+        due(f.undo(), 1);
+        due(f.seed(99), 99);
+        due(f.of(0, 2), 7);
+        due(f.of(1, 4), 33);
+        due(f.count(4), 1);
+
+        // 8 are known
+        BlindBuff m = of("2x6@00;p059");
+        m.minutes(4);
+        m.undo();
+        m.minutes(1);
+        due(m.minutes(5), 1);
+        due(m.count(9), 8);
+        for (int left = 7; left >= 0; left--) {
+            due(m.undo(), left);
+        }
+        due(m.undo(), NONE);
+        due(m.count(4), 1);
+        due(m.count(3), 1);
+        due(m.count(5), 0);
+
+        // a MINUTE of a DRIFT is UNDONE with its draw and its walk
+        BlindBuff d = of("4x4@00;p110,p220");
+        String ahead = all(d);
+        d.drift(1);
+        String one = all(d);
+        d.drift(1);
+        due(d.undo(), 1);
+        same(d, one);
+        due(d.undo(), 0);
+        same(d, ahead);
+
+        // a CITY, STREETS, a new PERSON leave nothing; refused ones leave all
+        BlindBuff s = new BlindBuff();
+        s.minutes(2);
+        s.streets(1, 1);
+        s.person(5, 0, 0, 0);
+        typed(s, "2x2@00;");
+        s.minutes(0);
+        s.walk(0, 0);
+        s.free(0);
+        s.drift(1);
+        due(s.count(9), 2);
+        s.person(0, 0, 0, 0);
+        due(s.undo(), NONE);
+        s.minutes(2);
+        typed(s, "2x2@00;p000");
+        due(s.undo(), NONE);
+        s.minutes(2);
+        s.streets(2, 2);
+        due(s.undo(), NONE);
+    }
+
+    private static void seed() {
+        begin(14);
+        BlindBuff x = new BlindBuff();
+        due(x.seed(0), 1);
+        due(x.seed(HIGH), 0);
+        due(x.seed(-1), BAD);
+        due(x.seed(LOW), BAD);
+        due(x.seed(3), HIGH);
+        x.streets(3, 3);
+        x.person(0, 8, 0, 0);
+        due(x.seed(HIGH), 3);
+        x.drift(1);
+        due(x.seed(1), (int) ((2147483647L * 1103515245L + 12345L) & 0x7fffffffL));
+    }
+
+    private static void ahead() {
+        begin(15);
+        BlindBuff x = of("2x4@00;p039a,p010ab");
+        x.rule(1, 1, 2);
+        String was = all(x);
+        int[][] due = {{0, 0, 0, 0}, {1, 2, 0, 1}, {2, 2, 0, 1}, {3, 3, 1, 1}, {3, 3, 1, 1}};
+        for (int n = 0; n < due.length; n++) {
+            for (int what = 0; what < 4; what++) {
+                due(x.ahead(n, what), due[n][what]);
+            }
+        }
+        due(x.ahead(60, 0), 3);
+        same(x, was);
+        int[][] bad = {{-1, 0}, {61, 0}, {0, -1}, {0, 4}, {LOW, 0}, {HIGH, 0}, {0, LOW}, {0, HIGH}};
+        for (int[] a : bad) {
+            due(x.ahead(a[0], a[1]), BAD);
+        }
+        BlindBuff empty = new BlindBuff();
+        due(empty.ahead(60, 0), 0);
+    }
+
+    private static void next() {
+        begin(16);
+        BlindBuff x = of("2x4@00;p039a,p020ab");
+        x.rule(1, 1, 2);
+        String was = all(x);
+        due(x.next(0), 1);
+        due(x.next(1), 2);
+        due(x.next(2), 0);
+        same(x, was);
+        x.minutes(2);
+        due(x.next(0), 0);
+        due(x.next(1), 1);
+        due(x.next(2), 0);
+        x.minutes(1);
+        due(x.next(0), NONE);
+        due(x.next(1), NONE);
+        due(x.next(2), NONE);
+        due(x.next(-1), BAD);
+        due(x.next(3), BAD);
+        due(x.next(LOW), BAD);
+        due(x.next(HIGH), BAD);
+        due(new BlindBuff().next(3), BAD);
+        due(new BlindBuff().next(0), NONE);
+        // FAR by 10, BREATHLESS: heard in no MINUTE
+        due(of("6x6@00;h559").next(1), NONE);
+        due(of("6x6@00;h459").next(1), NONE);
+        due(of("6x6@00;h349").next(1), 14);
+    }
+
+    private static void stand() {
+        begin(17);
+        // all of 2 x 3 are heard: the farthest CELL takes longest
+        BlindBuff x = of("2x3@00;p019");
+        String was = all(x);
+        due(x.stand(0, 0), 5);
+        due(x.stand(0, 1), 3);
+        same(x, was);
+        // by NOISE 2 one is not heard when FAR by 2: the first such CELL, never
+        BlindBuff q = of("3x3@11;p112");
+        due(q.stand(0, 0), 0);
+        due(q.stand(0, 1), 61);
+        BlindBuff all = of("2x2@00;p119,p110");
+        due(all.stand(0, 0), 3);
+        due(all.stand(0, 1), 2);
+        // he is off to the other one at once, so even his own CELL will do
+        due(all.stand(1, 0), 0);
+        due(all.stand(1, 1), 61);
+        all.minutes(2);
+        due(all.stand(0, 0), NOT);
+        due(all.stand(0, 2), BAD);
+        due(all.stand(1, 0), 0);
+        int[][] bad = {{-1, 0}, {2, 0}, {1, -1}, {1, 2}, {LOW, 0}, {HIGH, 0}, {1, LOW}, {1, HIGH}};
+        for (int[] a : bad) {
+            due(all.stand(a[0], a[1]), BAD);
+        }
+    }
+
+    private static void hush() {
+        begin(18);
+        // FAR by 3: NOISE 3 or less is not heard
+        BlindBuff x = of("2x4@00;p039");
+        String was = all(x);
+        due(x.hush(0, 1), 0);
+        due(x.hush(0, 2), 0);
+        due(x.hush(0, 3), 6);
+        due(x.hush(0, 60), 6);
+        same(x, was);
+        // all NOISE less does not help a BELLED one, nor one on his CELL
+        BlindBuff b = of("2x4@00;b039,p000");
+        due(b.hush(0, 3), NONE);
+        due(b.hush(0, 2), 0);
+        due(b.hush(1, 1), 0);
+        due(of("2x4@00;p000").hush(0, 1), NONE);
+        due(of("2x4@00;p019").hush(0, 60), 8);
+        due(of("2x4@00;p011").hush(0, 60), 0);
+        due(of("2x4@00;p012").hush(0, 60), 1);
+        b.minutes(3);
+        due(b.hush(0, 1), NOT);
+        due(b.hush(0, 0), BAD);
+        int[][] bad = {{-1, 1}, {2, 1}, {1, 0}, {1, 61}, {LOW, 1}, {HIGH, 1}, {1, LOW}, {1, HIGH}};
+        for (int[] a : bad) {
+            due(b.hush(a[0], a[1]), BAD);
+        }
+    }
+
+    private static void mask() {
+        begin(19);
+        BlindBuff x = of("2x2@00;p000abc,p000ab,p000f");
+        String was = all(x);
+        due(x.mask(0, 0), 1);
+        due(x.mask(0, 1), 4);
+        // 1 feels ab: with c otherwise it is as 0
+        due(x.mask(1, 0), 1);
+        due(x.mask(1, 1), 4);
+        // 2 feels f (32); with a, b otherwise it is as far from ab as from f less 1: 35 ^ 3 is 1, 35 ^ 32 is 2
+        due(x.mask(2, 0), 2);
+        due(x.mask(2, 1), 3);
+        same(x, was);
+        x.rule(0, 1, 4);
+        due(x.mask(0, 0), 0);
+        due(x.mask(0, 1), 0);
+        x.rule(0, 1, 12);
+        due(x.of(0, 8), 1);
+        x.rule(0, 1, 8);
+        due(x.mask(0, 0), 1);
+        due(x.mask(0, 1), 4);
+        // CAUGHT ones, too; the last of like ones is never NAMED
+        x.minutes(1);
+        due(x.mask(0, 0), 1);
+        BlindBuff twin = of("2x2@00;p000a,p000a");
+        due(twin.mask(0, 0), NONE);
+        due(twin.mask(0, 1), NONE);
+        due(twin.mask(1, 0), 0);
+        due(twin.mask(1, 1), 0);
+        BlindBuff far = of("2x2@00;p000,p000abcdef");
+        due(far.mask(0, 0), 4);
+        due(far.mask(0, 1), 15);
+        due(far.mask(1, 0), 3);
+        due(far.mask(1, 1), 7);
+        int[][] bad = {{-1, 0}, {2, 0}, {0, -1}, {0, 2}, {LOW, 0}, {HIGH, 0}, {0, LOW}, {0, HIGH}};
+        for (int[] a : bad) {
+            due(far.mask(a[0], a[1]), BAD);
+        }
+    }
+
+    private static void alike() {
+        begin(20);
+        BlindBuff x = of("2x2@00;p000abc,p000f,p000ab,p000abc,p000abcdef");
+        int[] many = {1, 3, 3, 6, 9, 10, 10};
+        int[] first = {3, 2, 2, 2, 1, 1, 1};
+        for (int k = 0; k <= 6; k++) {
+            due(x.alike(k, 0), many[k]);
+            due(x.alike(k, 1), first[k]);
+        }
+        // by LOOKS: whatever they are disguised as
+        x.rule(0, 1, 63);
+        due(x.alike(0, 0), 1);
+        BlindBuff late = of("2x2@00;p000,p000abcdef,p000abc,p000ab");
+        due(late.alike(1, 1), 23);
+        due(late.alike(0, 0), 0);
+        due(late.alike(0, 1), NONE);
+        due(new BlindBuff().alike(6, 0), 0);
+        due(new BlindBuff().alike(6, 1), NONE);
+        int[][] bad = {{-1, 0}, {7, 0}, {0, -1}, {0, 2}, {LOW, 0}, {HIGH, 0}, {0, LOW}, {0, HIGH}};
+        for (int[] a : bad) {
+            due(x.alike(a[0], a[1]), BAD);
+        }
+        due(new BlindBuff().alike(0, 2), BAD);
+    }
+
+    private static void turned() {
+        begin(21);
+        // 2 x 4: from the left half he goes to 0, from the right one to 1, by what is LOUDER
+        BlindBuff x = of("2x4@00;p009,p039");
+        String was = all(x);
+        due(x.turned(0, 0), 4);
+        due(x.turned(0, 1), 0);
+        due(x.turned(1, 0), 4);
+        due(x.turned(1, 1), 2);
+        same(x, was);
+        due(x.minutes(1), 1);
+        due(x.turned(0, 0), 0);
+        due(x.turned(0, 1), NONE);
+        due(x.turned(1, 0), 8);
+        due(x.turned(1, 1), 0);
+        // not heard: only where he stands on it
+        BlindBuff q = of("2x4@00;p120");
+        due(q.turned(0, 0), 1);
+        due(q.turned(0, 1), 6);
+        int[][] bad = {{-1, 0}, {1, 0}, {0, -1}, {0, 2}, {LOW, 0}, {HIGH, 0}, {0, LOW}, {0, HIGH}};
+        for (int[] a : bad) {
+            due(q.turned(a[0], a[1]), BAD);
+        }
+    }
+
+    private static void luck() {
+        begin(22);
+        // LOUD by 5, 5, 8, 0, 4
+        BlindBuff x = of("2x6@00;p016,p105,p019,p051,b050");
+        String was = all(x);
+        int[][] due = {
+            // person, c, above, below
+            {2, 0, 1, 1}, {0, 0, 0, 1}, {2, 3, 7, 10}, {0, 3, 21, 100}, {0, 5, 1, 4}, {1, 5, 1, 8}, {4, 5, 1, 16},
+            {4, 2, 4, 625}, {3, 5, 0, 1}, {2, 10, 0, 1}, {4, 10, 0, 1}, {1, 9, 81, 1000}, {2, 5, 1, 2}};
+        due(x.of(0, 7), 5);
+        due(x.of(1, 7), 4);
+        x.rule(1, 0, 6);
+        due(x.of(1, 7), 5);
+        for (int[] d : due) {
+            due(x.luck(d[0], d[1], 0), d[2]);
+            due(x.luck(d[0], d[1], 1), d[3]);
+        }
+        x.rule(1, 0, 5);
+        same(x, was);
+        // a CAUGHT one is not followed, nor does it keep him from others
+        BlindBuff c = of("2x2@00;p009,p019");
+        c.minutes(1);
+        due(c.luck(0, 5, 0), 0);
+        due(c.luck(0, 5, 1), 1);
+        due(c.luck(1, 4, 0), 3);
+        due(c.luck(1, 4, 1), 5);
+        BlindBuff six = of("2x2@00;p009,p009,p009,p009,p009,p009");
+        due(six.luck(5, 9, 0), 59049);
+        due(six.luck(5, 9, 1), 1000000);
+        int[][] bad = {{-1, 0, 0}, {6, 0, 0}, {0, -1, 0}, {0, 11, 0}, {0, 0, -1}, {0, 0, 2}, {LOW, 0, 0},
+            {HIGH, 0, 0}, {0, LOW, 0}, {0, HIGH, 0}, {0, 0, LOW}, {0, 0, HIGH}};
+        for (int[] a : bad) {
+            due(six.luck(a[0], a[1], a[2]), BAD);
+        }
+    }
+
+    private static void image() {
+        begin(23);
+        BlindBuff x = of("3x3@00;p229a,p020a");
+        x.minutes(2);
+        x.walk(1, 1);
+        x.rule(0, 1, 9);
+        x.seed(42);
+        x.type('2');
+        x.sheet(0, 2, 3);
+        String was = all(x);
+        due(x.image(), 1);
+        same(x, was);
+        x.type('x');
+        x.drop(0);
+        x.sheet(1, 1, 5);
+        x.undo();
+        x.minutes(5);
+        x.seed(7);
+        x.streets(5, 5);
+        due(x.restore(), 1);
+        same(x, was);
+        // SHEETS and THE TAPE are as they are
+        due(x.drop(0), NULL);
+        due(x.drop(1), 5);
+        due(x.type('3'), 3);
+        // what may be UNDONE is kept, too
+        due(x.undo(), 2);
+        due(x.of(1, 1), 2);
+        due(x.undo(), 1);
+        due(x.undo(), 0);
+        due(x.count(4), 0);
+        // a later IMAGE is in place of the earlier one
+        String start = all(x);
+        due(x.image(), 1);
+        x.minutes(3);
+        due(x.restore(), 1);
+        same(x, start);
+    }
+
+    private static void restore() {
+        begin(24);
+        BlindBuff x = new BlindBuff();
+        due(x.restore(), NONE);
+        x.image();
+        String empty = all(x);
+        typed(x, "3x3@00;p229a,p020a");
+        x.minutes(9);
+        String later = all(x);
+        due(x.restore(), 1);
+        same(x, empty);
+        typed(x, "3x3@00;p229a,p020a");
+        x.minutes(9);
+        same(x, later);
+        due(x.restore(), 1);
+        due(x.restore(), 1);
+        same(x, empty);
+        // what is done behind an IMAGE does not reach into it
+        typed(x, "3x3@00;p220,p020");
+        x.image();
+        String was = all(x);
+        x.walk(0, 0);
+        x.rule(0, 0, 9);
+        x.rule(1, 1, 63);
+        x.minutes(20);
+        due(x.restore(), 1);
+        same(x, was);
+        due(x.undo(), NONE);
+    }
+
+    private static void seen() {
+        begin(25);
+        // the film is 1, 2, 3: on 1 he is from 0 or up from 5, on 3 from 2, from 3 itself or up from 7
+        BlindBuff x = of("2x4@00;p039");
+        String was = all(x);
+        x.sheet(0, 2, 4);
+        due(x.film(3, 0, 2, 0), 3);
+        due(x.seen(0, 2, 0, 1, 0), 2);
+        due(x.seen(0, 2, 0, 1, 1), 0);
+        due(x.seen(0, 2, 0, 3, 0), 2);
+        due(x.seen(0, 2, 1, 1, 0), 2);
+        due(x.seen(0, 2, 1, 1, 1), 1);
+        due(x.seen(0, 2, 2, 1, 0), 3);
+        due(x.seen(0, 2, 2, 1, 1), 2);
+        due(x.seen(0, 2, 3, 1, 0), 1);
+        due(x.seen(0, 2, 3, 1, 1), 4);
+        x.item(0, 2, 3, 7);
+        due(x.seen(0, 2, 3, 1, 0), 0);
+        due(x.seen(0, 2, 3, 1, 1), NONE);
+        due(x.seen(0, 2, 2, 2, 0), 0);
+        same(x, was);
+        // every LANE; 8 MINUTES at most
+        for (int lane = 0; lane < 4; lane++) {
+            x.sheet(1, lane, 24);
+            due(x.film(24, 1, lane, 0), 24);
+            due(x.seen(1, lane, 0, 8, 0), 2);
+            due(x.seen(1, lane, 16, 8, 0), 3);
+            due(x.seen(1, lane, 17, 8, 0), INDEX);
+            due(x.seen(1, lane, -1, 8, 0), INDEX);
+            due(x.seen(1, lane, HIGH, 8, 0), INDEX);
+            due(x.seen(1, lane, LOW, 8, 0), INDEX);
+            due(x.seen(1, (lane + 1) % 4, 17, 8, 0), CAST);
+            due(x.seen(1, lane, 0, 9, 0), BAD);
+        }
+        // 1 and 2 to the 32: another number than 1
+        x.item(1, 3, 0, 1L);
+        due(x.seen(1, 3, 0, 1, 0), 2);
+        x.item(1, 3, 0, 1L + (1L << 32));
+        due(x.seen(1, 3, 0, 1, 0), 0);
+        due(x.seen(2, 0, -1, 1, 0), NULL);
+        int[][] bad = {{-1, 0, 0, 1, 0}, {4, 0, 0, 1, 0}, {2, -1, 0, 1, 0}, {2, 4, 0, 1, 0}, {2, 0, 0, 0, 0},
+            {2, 0, 0, 9, 0}, {2, 0, 0, 1, -1}, {2, 0, 0, 1, 2}, {LOW, 0, 0, 1, 0}, {HIGH, 0, 0, 1, 0},
+            {2, LOW, 0, 1, 0}, {2, HIGH, 0, 1, 0}, {2, 0, 0, LOW, 0}, {2, 0, 0, HIGH, 0}, {2, 0, 0, 1, LOW}};
+        for (int[] a : bad) {
+            due(x.seen(a[0], a[1], a[2], a[3], a[4]), BAD);
+        }
+    }
+
+    private static void film() {
+        begin(26);
+        BlindBuff x = of("2x4@00;p039");
+        String was = all(x);
+        for (int lane = 0; lane < 4; lane++) {
+            x.sheet(0, lane, 5);
+            x.item(0, lane, 0, 77);
+            due(x.film(3, 0, lane, 1), 3);
+            due(x.seen(0, lane, 1, 3, 0), 2);
+            // the items ahead of it and behind it are as they were
+            due(x.seen(0, lane, 0, 1, 0), 0);
+            due(x.seen(0, lane, 4, 1, 1), 4);
+            due(x.film(5, 0, lane, 0), 5);
+            due(x.film(5, 0, lane, 1), INDEX);
+            due(x.film(1, 0, lane, 5), INDEX);
+            due(x.film(1, 0, lane, -1), INDEX);
+            due(x.film(1, 0, lane, LOW), INDEX);
+            due(x.film(24, 0, lane, HIGH), INDEX);
+            due(x.film(1, 0, (lane + 1) % 4, -1), CAST);
+        }
+        // what is refused changes nothing
+        x.sheet(0, 0, 2);
+        due(x.film(3, 0, 0, 0), INDEX);
+        due(x.seen(0, 0, 0, 1, 1), 4);
+        same(x, was);
+        due(x.film(1, 1, 0, -1), NULL);
+        int[][] bad = {{0, 1, 0, 0}, {25, 1, 0, 0}, {1, -1, 0, 0}, {1, 4, 0, 0}, {1, 1, -1, 0}, {1, 1, 4, 0},
+            {LOW, 1, 0, 0}, {HIGH, 1, 0, 0}, {1, LOW, 0, 0}, {1, HIGH, 0, 0}, {1, 1, LOW, 0}, {1, 1, HIGH, 0}};
+        for (int[] a : bad) {
+            due(x.film(a[0], a[1], a[2], a[3]), BAD);
+        }
+    }
+
+    private static void sheet() {
+        begin(27);
+        BlindBuff x = of("2x4@00;p039");
+        due(x.sheet(0, 0, 0), 0);
+        due(x.sheet(1, 1, 1), 1);
+        due(x.sheet(2, 2, 23), 23);
+        due(x.sheet(3, 3, 24), 24);
+        due(x.sheet(3, 3, 25), BAD);
+        due(x.sheet(3, 3, HIGH), BAD);
+        due(x.sheet(3, 3, -1), SIZE);
+        due(x.sheet(3, 3, LOW), SIZE);
+        due(x.drop(3), 24);
+        due(x.sheet(3, 3, -1), SIZE);
+        due(x.drop(3), NULL);
+        int[][] bad = {{-1, 0, 1}, {4, 0, 1}, {0, -1, 1}, {0, 4, 1}, {LOW, 0, 1}, {HIGH, 0, 1}, {0, LOW, 1},
+            {0, HIGH, 1}, {-1, 0, -1}, {0, 4, -1}};
+        for (int[] a : bad) {
+            due(x.sheet(a[0], a[1], a[2]), BAD);
+        }
+        due(x.drop(0), 0);
+        // a new row is of 0s, and of its own length and LANE
+        due(x.item(1, 1, 0, 9), 1);
+        due(x.sheet(1, 1, 2), 2);
+        due(x.seen(1, 1, 0, 1, 1), 4);
+        due(x.item(1, 1, 0, 9), 1);
+        due(x.sheet(1, 2, 1), 1);
+        due(x.seen(1, 2, 0, 1, 1), 4);
+        due(x.item(1, 1, 0, 9), CAST);
+        due(x.item(1, 2, 1, 9), INDEX);
+    }
+
+    private static void drop() {
+        begin(28);
+        BlindBuff x = new BlindBuff();
+        due(x.drop(0), NULL);
+        for (int s = 0; s < 4; s++) {
+            x.sheet(s, s, 5 * s);
+        }
+        for (int s = 3; s >= 0; s--) {
+            due(x.drop(s), 5 * s);
+            due(x.drop(s), NULL);
+        }
+        due(x.sheet(2, 0, 7), 7);
+        due(x.drop(2), 7);
+        due(x.item(2, 0, 0, 1), NULL);
+        int[] bad = {-1, 4, LOW, HIGH};
+        for (int s : bad) {
+            due(x.drop(s), BAD);
+        }
+    }
+
+    private static void item() {
+        begin(29);
+        BlindBuff x = of("2x4@00;p039");
+        long[] one = {1L + 256, 1L + 65536, 1L + (1L << 32), 1L};
+        long[] other = {1L + 128, 1L + 256, 1L + 65536, 1L + (1L << 32)};
+        for (int lane = 0; lane < 4; lane++) {
+            x.sheet(0, lane, 24);
+            due(x.item(0, lane, 23, one[lane]), 1);
+            due(x.seen(0, lane, 23, 1, 0), 2);
+            due(x.item(0, lane, 23, other[lane]), 1);
+            due(x.seen(0, lane, 23, 1, 0), 0);
+            due(x.item(0, lane, 0, Long.MIN_VALUE + 1), 1);
+            due(x.seen(0, lane, 0, 1, 0), lane == 3 ? 0 : 2);
+            due(x.item(0, lane, 24, 1), INDEX);
+            due(x.item(0, lane, -1, 1), INDEX);
+            due(x.item(0, lane, LOW, 1), INDEX);
+            due(x.item(0, lane, HIGH, 1), INDEX);
+            due(x.item(0, (lane + 1) % 4, 24, 1), CAST);
+        }
+        x.sheet(1, 0, 0);
+        due(x.item(1, 0, 0, 1), INDEX);
+        due(x.item(2, 0, -1, 1), NULL);
+        int[][] bad = {{-1, 0}, {4, 0}, {2, -1}, {2, 4}, {LOW, 0}, {HIGH, 0}, {2, LOW}, {2, HIGH}};
+        for (int[] a : bad) {
+            due(x.item(a[0], a[1], 0, 1), BAD);
+        }
+    }
+
+    private static void copy() {
+        begin(30);
+        BlindBuff x = of("2x4@00;p039");
+        x.sheet(0, 1, 6);
+        x.sheet(1, 1, 4);
+        x.film(3, 0, 1, 1);
+        due(x.copy(0, 1, 1, 0, 3), 3);
+        due(x.seen(1, 1, 0, 3, 0), 2);
+        due(x.seen(1, 1, 3, 1, 1), 4);
+        // within one SHEET, to both sides, as if all were taken ahead
+        due(x.copy(0, 1, 0, 2, 3), 3);
+        due(x.seen(0, 1, 2, 3, 0), 2);
+        due(x.seen(0, 1, 1, 1, 0), 2);
+        due(x.copy(0, 2, 0, 0, 4), 4);
+        due(x.seen(0, 1, 0, 3, 0), 2);
+        due(x.seen(0, 1, 3, 1, 1), 4);
+        // none of them, also at the end
+        due(x.copy(0, 6, 1, 4, 0), 0);
+        due(x.copy(0, 7, 1, 4, 0), INDEX);
+        due(x.copy(0, 6, 1, 5, 0), INDEX);
+        due(x.copy(0, 0, 1, 0, 5), INDEX);
+        due(x.copy(0, 3, 1, 0, 4), INDEX);
+        due(x.copy(0, -1, 1, 0, 1), INDEX);
+        due(x.copy(0, 0, 1, -1, 1), INDEX);
+        due(x.copy(0, 0, 1, 0, -1), INDEX);
+        due(x.copy(0, 0, 1, 0, LOW), INDEX);
+        due(x.copy(0, 0, 1, 0, HIGH), INDEX);
+        due(x.copy(0, HIGH, 1, HIGH, HIGH), INDEX);
+        due(x.copy(0, LOW, 1, LOW, LOW), INDEX);
+        x.sheet(2, 2, 6);
+        due(x.copy(0, 0, 2, 0, 1), CAST);
+        due(x.copy(2, 0, 0, 0, -1), CAST);
+        due(x.copy(0, 0, 3, 0, 1), NULL);
+        due(x.copy(3, 0, 0, 0, -1), NULL);
+        due(x.copy(3, 0, 3, 0, 0), NULL);
+        int[] bad = {-1, 4, LOW, HIGH};
+        for (int s : bad) {
+            due(x.copy(s, 0, 0, 0, 1), BAD);
+            due(x.copy(0, 0, s, 0, 1), BAD);
+            due(x.copy(3, 0, s, 0, 1), BAD);
+            due(x.copy(s, 0, 3, 0, 1), BAD);
+        }
+    }
+
+    public static void main(String[] args) {
+        aNewObject();
+        streets();
+        person();
+        ofAPerson();
+        rule();
+        type();
+        city();
+        count();
+        minutes();
+        walk();
+        free();
+        drift();
+        undo();
+        seed();
+        ahead();
+        next();
+        stand();
+        hush();
+        mask();
+        alike();
+        turned();
+        luck();
+        image();
+        restore();
+        seen();
+        film();
+        sheet();
+        drop();
+        item();
+        copy();
+        System.out.println(wrong == 0 ? "all promises are as due" : wrong + " answers are not as due");
+        if (wrong != 0) {
+            System.exit(1);
+        }
+    }
+}
