@@ -103,6 +103,16 @@ public final class PromisesTest {
         due(x.person(0, 12, 3, 0), BAD);
         // whoever was CAUGHT there is nobody here
         due(x.of(0, 5), 0);
+        // he is back on CELL 0, and nobody has been NAMED
+        BlindBuff y = of("3x4@12;p120a,p120a");
+        due(y.minutes(2), 3);
+        due(y.count(3), 6);
+        due(y.count(6), 1);
+        due(y.count(7), 1);
+        due(y.streets(3, 4), 12);
+        due(y.count(3), 0);
+        due(y.count(6), 0);
+        due(y.count(7), 0);
     }
 
     private static void person() {
@@ -290,6 +300,9 @@ public final class PromisesTest {
         cityOf("2x2;p000", -23);
         cityOf("2x3@20;p000", -24);
         cityOf("2x3@03;p000", -25);
+        cityOf("2x3@;p000", -24);
+        cityOf("2x3@1;p000", -25);
+        cityOf("2x3@12;p;000", -28);
         cityOf("2x3@12;p12", -30);
         cityOf("2x3@12,p120", -26);
         cityOf("2x3@12;", -27);
@@ -310,6 +323,22 @@ public final class PromisesTest {
         cityOf("2x2@00;p000,p000,p000,p000,p000,p000,p000", -56);
         cityOf("2x2@00;p000,p000,p000,p000,p000,p000 , p000", -57);
         cityOf("2x2@00;p000,p000,p000,p000,p000,p000a b f x", -62);
+        // of an earlier TAPE no letter is left
+        BlindBuff again = of("2x2@00;p009abc,s119");
+        due(typed(again, "2x2@00;p009a"), 1);
+        due(again.of(0, 3), 1);
+        due(typed(again, "2x2@00;p009"), 1);
+        due(again.of(0, 3), 0);
+        due(typed(again, "2x2@00;p00"), -30);
+        // nor of the people of an earlier CITY
+        due(typed(again, "2x2@00;p009,p110"), 2);
+        again.rule(0, 1, 3);
+        again.minutes(1);
+        due(typed(again, "2x2@11;p000"), 1);
+        due(again.count(2), 1);
+        due(again.count(5), 0);
+        due(again.of(0, 4), 0);
+        due(again.of(1, 0), BAD);
     }
 
     private static void count() {
@@ -501,6 +530,25 @@ public final class PromisesTest {
         due(z.count(4), 41);
         due(z.drift(40), 1);
         due(z.count(9), 8);
+        // 476387081 by 65536 is 7269, by one more were 7268: person 1 goes to the left
+        BlindBuff e = of("2x4@00;p130,p130");
+        e.seed(16);
+        due(e.drift(1), 0);
+        due(e.of(0, 1), 7);
+        due(e.of(1, 1), 6);
+        // to MINUTE 9999, and no further
+        BlindBuff full = of("2x2@00;p110");
+        for (int i = 0; i < 249; i++) {
+            full.minutes(40);
+        }
+        full.minutes(35);
+        due(full.count(4), 9995);
+        due(full.drift(5), FULL);
+        due(full.count(4), 9995);
+        due(full.seed(1), 1);
+        due(full.drift(4) >= 0 ? 1 : 0, 1);
+        due(full.count(4), 9999);
+        due(full.drift(1), FULL);
         // the walk comes ahead of the MINUTE: up there is no CELL, but to the left it is he who stands there
         BlindBuff w = of("2x2@00;p010");
         due(w.seed(0), 1);
@@ -545,6 +593,14 @@ public final class PromisesTest {
         due(f.count(5), 1);
         due(f.count(6), 1);
         due(f.count(7), 0);
+        due(f.minutes(1), 3);
+        due(f.count(7), 1);
+        f.minutes(1);
+        due(f.undo(), 2);
+        due(f.count(6), 1);
+        due(f.count(7), 1);
+        due(f.undo(), 1);
+        due(f.count(7), 0);
         // what was told since stays, but for THE DRAW
         f.seed(99);
         f.minutes(1);
@@ -571,6 +627,20 @@ public final class PromisesTest {
         due(m.count(4), 1);
         due(m.count(3), 1);
         due(m.count(5), 0);
+
+        // six PEOPLE, RIGHT, WRONG, THE DRAW and he, each as it was
+        BlindBuff six = of("3x4@02;p020a,p120a,h219,p230,p200,p030f");
+        six.seed(4);
+        String[] steps = new String[8];
+        for (int i = 0; i < 8; i++) {
+            steps[i] = all(six);
+            due(i % 2 == 0 ? six.minutes(1) > 0 ? 1 : 0 : six.drift(1) > 0 ? 1 : 0, 1);
+        }
+        due(six.count(6) > 0 && six.count(7) > 0 ? 1 : 0, 1);
+        for (int i = 7; i >= 0; i--) {
+            due(six.undo(), i);
+            same(six, steps[i]);
+        }
 
         // a MINUTE of a DRIFT is UNDONE with its draw and its walk
         BlindBuff d = of("4x4@00;p110,p220");
@@ -681,6 +751,9 @@ public final class PromisesTest {
         BlindBuff q = of("3x3@11;p112");
         due(q.stand(0, 0), 0);
         due(q.stand(0, 1), 61);
+        BlindBuff corner = of("2x2@01;p009");
+        due(corner.stand(0, 0), 2);
+        due(corner.stand(0, 1), 2);
         BlindBuff all = of("2x2@00;p119,p110");
         due(all.stand(0, 0), 3);
         due(all.stand(0, 1), 2);
@@ -834,6 +907,11 @@ public final class PromisesTest {
         }
         x.rule(1, 0, 5);
         same(x, was);
+        // LOUD by 1 is enough
+        BlindBuff low = of("2x2@00;p012");
+        due(low.of(0, 7), 1);
+        due(low.luck(0, 5, 0), 1);
+        due(low.luck(0, 5, 1), 2);
         // a CAUGHT one is not followed, nor does it keep him from others
         BlindBuff c = of("2x2@00;p009,p019");
         c.minutes(1);
@@ -882,6 +960,23 @@ public final class PromisesTest {
         due(x.undo(), 1);
         due(x.undo(), 0);
         due(x.count(4), 0);
+        // each step that is kept is as it was, whatever was done since
+        BlindBuff y = of("3x3@00;p220,p020");
+        y.walk(0, 0);
+        y.walk(0, 2);
+        y.walk(1, 1);
+        y.image();
+        typed(y, "6x6@55;p009,p009");
+        y.minutes(20);
+        y.restore();
+        y.undo();
+        due(y.of(1, 1), 2);
+        y.undo();
+        due(y.of(0, 1), 5);
+        y.undo();
+        due(y.of(0, 1), 8);
+        due(y.count(4), 0);
+        due(y.count(3), 0);
         // a later IMAGE is in place of the earlier one
         String start = all(x);
         due(x.image(), 1);
@@ -941,6 +1036,10 @@ public final class PromisesTest {
         due(x.seen(0, 2, 3, 1, 1), NONE);
         due(x.seen(0, 2, 2, 2, 0), 0);
         same(x, was);
+        BlindBuff small = of("2x2@00;p119");
+        small.sheet(3, 0, 1);
+        small.item(3, 0, 0, 2);
+        due(small.seen(3, 0, 0, 1, 0), 1);
         // every LANE; 8 MINUTES at most
         for (int lane = 0; lane < 4; lane++) {
             x.sheet(1, lane, 24);
