@@ -330,6 +330,8 @@ public final class PromisesTest {
         due(typed(again, "2x2@00;p009"), 1);
         due(again.of(0, 3), 0);
         due(typed(again, "2x2@00;p00"), -30);
+        due(typed(again, "            "), -32);
+        due(typed(again, "2x2"), -23);
         // nor of the people of an earlier CITY
         due(typed(again, "2x2@00;p009,p110"), 2);
         again.rule(0, 1, 3);
