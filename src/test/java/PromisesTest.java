@@ -1,62 +1,7 @@
 /** For each promise of the document: ordinary inputs, the edges that it names, and wrong inputs. */
-public final class PromisesTest {
-    private static final int BAD = -1, NOT = -2, FULL = -3, NONE = -4, NULL = -11, CAST = -12, INDEX = -13, SIZE = -14;
-    private static final int LOW = Integer.MIN_VALUE, HIGH = Integer.MAX_VALUE;
-
-    private static int promise = 0;
-    private static int row = 0;
-    private static int wrong = 0;
-
-    private static void begin(int number) {
-        promise = number;
-        row = 0;
-    }
-
-    private static void due(long got, long want) {
-        row++;
-        if (got != want) {
-            wrong++;
-            int line = new Throwable().getStackTrace()[1].getLineNumber();
-            System.out.println("promise " + promise + ", row " + row + " (line " + line + "): answered " + got
-                    + ", due is " + want);
-        }
-    }
-
-    private static int typed(BlindBuff x, String text) {
-        for (int i = 0; i < text.length(); i++) {
-            x.type(text.charAt(i));
-        }
-        return x.city();
-    }
-
-    private static BlindBuff of(String text) {
-        BlindBuff x = new BlindBuff();
-        due(typed(x, text) > 0 ? 1 : 0, 1);
-        return x;
-    }
-
-    /** Everything that can be asked of the city itself, as one text. */
-    private static String all(BlindBuff x) {
-        StringBuilder b = new StringBuilder();
-        for (int what = 0; what <= 9; what++) {
-            b.append(x.count(what)).append(' ');
-        }
-        for (int p = 0; p < x.count(2); p++) {
-            for (int what = 0; what <= 8; what++) {
-                b.append(x.of(p, what)).append(' ');
-            }
-        }
-        int draw = x.seed(0);
-        x.seed(draw);
-        return b.append(draw).toString();
-    }
-
-    private static void same(BlindBuff x, String was) {
-        due(all(x).equals(was) ? 1 : 0, 1);
-    }
-
+public final class PromisesTest extends Desk {
     private static void aNewObject() {
-        begin(1);
+        begin("promise 1");
         BlindBuff x = new BlindBuff();
         int[] first = {4, 5, 0, 0, 0, 0, 0, 0, NONE, 0};
         for (int what = 0; what < first.length; what++) {
@@ -74,7 +19,7 @@ public final class PromisesTest {
     }
 
     private static void streets() {
-        begin(2);
+        begin("promise 2");
         BlindBuff x = of("3x4@12;p009a");
         x.minutes(2);
         x.seed(77);
@@ -116,7 +61,7 @@ public final class PromisesTest {
     }
 
     private static void person() {
-        begin(3);
+        begin("promise 3");
         BlindBuff x = new BlindBuff();
         int[][] bad = {{-1, 0, 0, 0}, {5, 0, 0, 0}, {0, -1, 0, 0}, {0, 20, 0, 0}, {0, 0, -1, 0}, {0, 0, 10, 0},
             {0, 0, 0, -1}, {0, 0, 0, 64}, {LOW, 0, 0, 0}, {0, LOW, 0, 0}, {0, 0, HIGH, 0}, {0, 0, 0, HIGH}};
@@ -153,7 +98,7 @@ public final class PromisesTest {
     }
 
     private static void ofAPerson() {
-        begin(4);
+        begin("promise 4");
         BlindBuff x = of("6x6@00;p129,p052,s128bd,b052,h409,l203");
         int[][] due = {
             // kind, cell, noise, look, disguise, caught, far, loud, named
@@ -206,7 +151,7 @@ public final class PromisesTest {
     }
 
     private static void rule() {
-        begin(5);
+        begin("promise 5");
         BlindBuff x = of("2x3@00;p125ab,s001");
         due(x.rule(0, 0, 9), 5);
         due(x.rule(0, 0, 0), 9);
@@ -233,7 +178,7 @@ public final class PromisesTest {
     }
 
     private static void type() {
-        begin(6);
+        begin("promise 6");
         BlindBuff x = new BlindBuff();
         int[] bad = {31, 127, 0, -1, 10, 255, LOW, HIGH, 65536 + 50};
         for (int letter : bad) {
@@ -265,7 +210,7 @@ public final class PromisesTest {
     }
 
     private static void city() {
-        begin(7);
+        begin("promise 7");
         BlindBuff x = of("2x2@01;p009");
         x.minutes(1);
         x.rule(0, 1, 9);
@@ -344,7 +289,7 @@ public final class PromisesTest {
     }
 
     private static void count() {
-        begin(8);
+        begin("promise 8");
         BlindBuff x = of("3x4@12;p035a,p005,s219");
         int[] first = {3, 4, 3, 6, 0, 0, 0, 0, 1, 0};
         // PLAIN 0 is LOUD by 5 - 2, PLAIN 1 by 5 - 3, SOFT 2 by (9 - 2) / 2: he follows the first of 3 and 3
@@ -378,7 +323,7 @@ public final class PromisesTest {
     }
 
     private static void minutes() {
-        begin(9);
+        begin("promise 9");
         // ROWS first, then COLUMNS, both ways
         BlindBuff x = of("4x4@03;p309");
         int[] path = {7, 11, 15, 14, 13, 12};
@@ -444,7 +389,7 @@ public final class PromisesTest {
     }
 
     private static void walk() {
-        begin(10);
+        begin("promise 10");
         BlindBuff x = of("2x3@00;p110,p000");
         due(x.walk(0, 0), 1);
         due(x.walk(0, 0), NOT);
@@ -475,7 +420,7 @@ public final class PromisesTest {
     }
 
     private static void free() {
-        begin(11);
+        begin("promise 11");
         BlindBuff x = of("2x2@00;p000,p000,p110");
         due(x.free(0), NOT);
         due(x.minutes(2), 3);
@@ -496,7 +441,7 @@ public final class PromisesTest {
     }
 
     private static void drift() {
-        begin(12);
+        begin("promise 12");
         BlindBuff x = new BlindBuff();
         due(x.drift(1), NOT);
         due(x.drift(0), BAD);
@@ -563,8 +508,17 @@ public final class PromisesTest {
         due(w.count(6), 1);
     }
 
+    private static BlindBuff sixBehind(int steps) {
+        BlindBuff x = of("3x4@02;p020a,p120a,h219,p230,p200,p030f");
+        x.seed(4);
+        for (int i = 0; i < steps; i++) {
+            due((i % 2 == 0 ? x.minutes(1) : x.drift(1)) > 0 ? 1 : 0, 1);
+        }
+        return x;
+    }
+
     private static void undo() {
-        begin(13);
+        begin("promise 13");
         BlindBuff x = of("3x3@00;p229a,p020a");
         String a = all(x);
         x.walk(1, 1);
@@ -631,17 +585,13 @@ public final class PromisesTest {
         due(m.count(5), 0);
 
         // six PEOPLE, RIGHT, WRONG, THE DRAW and he, each as it was
-        BlindBuff six = of("3x4@02;p020a,p120a,h219,p230,p200,p030f");
-        six.seed(4);
-        String[] steps = new String[8];
-        for (int i = 0; i < 8; i++) {
-            steps[i] = all(six);
-            due(i % 2 == 0 ? six.minutes(1) > 0 ? 1 : 0 : six.drift(1) > 0 ? 1 : 0, 1);
-        }
-        due(six.count(6) > 0 && six.count(7) > 0 ? 1 : 0, 1);
-        for (int i = 7; i >= 0; i--) {
-            due(six.undo(), i);
-            same(six, steps[i]);
+        for (int steps = 0; steps < 8; steps++) {
+            BlindBuff back = sixBehind(8);
+            due(back.count(6) > 0 && back.count(7) > 0 ? 1 : 0, 1);
+            for (int left = 7; left >= steps; left--) {
+                due(back.undo(), left);
+            }
+            same(back, all(sixBehind(steps)));
         }
 
         // a MINUTE of a DRIFT is UNDONE with its draw and its walk
@@ -677,7 +627,7 @@ public final class PromisesTest {
     }
 
     private static void seed() {
-        begin(14);
+        begin("promise 14");
         BlindBuff x = new BlindBuff();
         due(x.seed(0), 1);
         due(x.seed(HIGH), 0);
@@ -692,7 +642,7 @@ public final class PromisesTest {
     }
 
     private static void ahead() {
-        begin(15);
+        begin("promise 15");
         BlindBuff x = of("2x4@00;p039a,p010ab");
         x.rule(1, 1, 2);
         String was = all(x);
@@ -713,7 +663,7 @@ public final class PromisesTest {
     }
 
     private static void next() {
-        begin(16);
+        begin("promise 16");
         BlindBuff x = of("2x4@00;p039a,p020ab");
         x.rule(1, 1, 2);
         String was = all(x);
@@ -742,7 +692,7 @@ public final class PromisesTest {
     }
 
     private static void stand() {
-        begin(17);
+        begin("promise 17");
         // all of 2 x 3 are heard: the farthest CELL takes longest
         BlindBuff x = of("2x3@00;p019");
         String was = all(x);
@@ -773,7 +723,7 @@ public final class PromisesTest {
     }
 
     private static void hush() {
-        begin(18);
+        begin("promise 18");
         // FAR by 3: NOISE 3 or less is not heard
         BlindBuff x = of("2x4@00;p039");
         String was = all(x);
@@ -801,7 +751,7 @@ public final class PromisesTest {
     }
 
     private static void mask() {
-        begin(19);
+        begin("promise 19");
         BlindBuff x = of("2x2@00;p000abc,p000ab,p000f");
         String was = all(x);
         due(x.mask(0, 0), 1);
@@ -841,7 +791,7 @@ public final class PromisesTest {
     }
 
     private static void alike() {
-        begin(20);
+        begin("promise 20");
         BlindBuff x = of("2x2@00;p000abc,p000f,p000ab,p000abc,p000abcdef");
         int[] many = {1, 3, 3, 6, 9, 10, 10};
         int[] first = {3, 2, 2, 2, 1, 1, 1};
@@ -866,7 +816,7 @@ public final class PromisesTest {
     }
 
     private static void turned() {
-        begin(21);
+        begin("promise 21");
         // 2 x 4: from the left half he goes to 0, from the right one to 1, by what is LOUDER
         BlindBuff x = of("2x4@00;p009,p039");
         String was = all(x);
@@ -891,7 +841,7 @@ public final class PromisesTest {
     }
 
     private static void luck() {
-        begin(22);
+        begin("promise 22");
         // LOUD by 5, 5, 8, 0, 4
         BlindBuff x = of("2x6@00;p016,p105,p019,p051,b050");
         String was = all(x);
@@ -932,7 +882,7 @@ public final class PromisesTest {
     }
 
     private static void image() {
-        begin(23);
+        begin("promise 23");
         BlindBuff x = of("3x3@00;p229a,p020a");
         x.minutes(2);
         x.walk(1, 1);
@@ -988,7 +938,7 @@ public final class PromisesTest {
     }
 
     private static void restore() {
-        begin(24);
+        begin("promise 24");
         BlindBuff x = new BlindBuff();
         due(x.restore(), NONE);
         x.image();
@@ -1018,7 +968,7 @@ public final class PromisesTest {
     }
 
     private static void seen() {
-        begin(25);
+        begin("promise 25");
         // the film is 1, 2, 3: on 1 he is from 0 or up from 5, on 3 from 2, from 3 itself or up from 7
         BlindBuff x = of("2x4@00;p039");
         String was = all(x);
@@ -1070,7 +1020,7 @@ public final class PromisesTest {
     }
 
     private static void film() {
-        begin(26);
+        begin("promise 26");
         BlindBuff x = of("2x4@00;p039");
         String was = all(x);
         for (int lane = 0; lane < 4; lane++) {
@@ -1103,7 +1053,7 @@ public final class PromisesTest {
     }
 
     private static void sheet() {
-        begin(27);
+        begin("promise 27");
         BlindBuff x = of("2x4@00;p039");
         due(x.sheet(0, 0, 0), 0);
         due(x.sheet(1, 1, 1), 1);
@@ -1134,7 +1084,7 @@ public final class PromisesTest {
     }
 
     private static void drop() {
-        begin(28);
+        begin("promise 28");
         BlindBuff x = new BlindBuff();
         due(x.drop(0), NULL);
         for (int s = 0; s < 4; s++) {
@@ -1154,7 +1104,7 @@ public final class PromisesTest {
     }
 
     private static void item() {
-        begin(29);
+        begin("promise 29");
         BlindBuff x = of("2x4@00;p039");
         long[] one = {1L + 256, 1L + 65536, 1L + (1L << 32), 1L};
         long[] other = {1L + 128, 1L + 256, 1L + 65536, 1L + (1L << 32)};
@@ -1182,7 +1132,7 @@ public final class PromisesTest {
     }
 
     private static void copy() {
-        begin(30);
+        begin("promise 30");
         BlindBuff x = of("2x4@00;p039");
         x.sheet(0, 1, 6);
         x.sheet(1, 1, 4);
@@ -1256,9 +1206,6 @@ public final class PromisesTest {
         drop();
         item();
         copy();
-        System.out.println(wrong == 0 ? "all promises are as due" : wrong + " answers are not as due");
-        if (wrong != 0) {
-            System.exit(1);
-        }
+        end("all promises are as due");
     }
 }
