@@ -233,6 +233,20 @@ public final class TermBoundariesTest extends Edges {
 
     // ---- how loud one is
 
+    @Sentence(promise = 0, words = "FAR are two CELLS by as many ROWS and COLUMNS as are between them, added.")
+    static void onOneCellAndFromCornerToCorner() {
+        String[] corners = {"00", "05", "50", "55"};
+        int[][] far = {{0, 5, 5, 10}, {5, 0, 10, 5}, {5, 10, 0, 5}, {10, 5, 5, 0}};
+        for (int he = 0; he < 4; he++) {
+            BlindBuff x = of("6x6@" + corners[he] + ";p000,p050,p500,p550");
+            for (int p = 0; p < 4; p++) {
+                due(x.of(p, 6), far[he][p]);
+            }
+        }
+        // the end of a ROW and the beginning of the next are neighbours by number alone
+        due(of("2x6@05;p100").of(0, 6), 6);
+    }
+
     @Sentence(promise = 0, words = "NOISE less how FAR it is (0 at least)")
     static void neverBelowNought() {
         BlindBuff x = of("6x6@00;p550,p559,p459,p449,p009,p120");

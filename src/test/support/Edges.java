@@ -69,9 +69,11 @@ abstract class Edges extends Desk {
                     mark(quoted, part, sentence(m).words());
                 }
             }
-            // what the Terms say of the answers' names is no refusal yet
-            demand(quoted, part, promise == 0 ? RANGE : REFUSAL);
             demand(quoted, part, RANGE);
+            // the Terms only say what the refusals are called
+            if (promise > 0) {
+                demand(quoted, part, REFUSAL);
+            }
         }
     }
 
