@@ -1043,6 +1043,6 @@ public final class PromiseBoundariesTest extends Edges {
     }
 
     public static void main(String[] args) throws Exception {
-        runAll(PromiseBoundariesTest.class, 1, 30);
+        runEdges(PromiseBoundariesTest.class, 1, 30);
     }
 }

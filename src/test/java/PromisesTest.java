@@ -1,7 +1,7 @@
-/** For each promise of the document: ordinary inputs, the edges that it names, and wrong inputs. */
-public final class PromisesTest extends Desk {
-    private static void aNewObject() {
-        begin("promise 1");
+/** For each promise, which is quoted whole: ordinary inputs, the edges that it names, and wrong inputs. */
+public final class PromisesTest extends Quotes {
+    @Sentence(promise = 1, words = "Streets, nobody.")
+    static void aNewObject() {
         BlindBuff x = new BlindBuff();
         int[] first = {4, 5, 0, 0, 0, 0, 0, 0, NONE, 0};
         for (int what = 0; what < first.length; what++) {
@@ -18,8 +18,10 @@ public final class PromisesTest extends Desk {
         due(x.person(0, 19, 0, 0), 0);
     }
 
-    private static void streets() {
-        begin("promise 2");
+    @Sentence(promise = 2, words =
+            "STREETS of so many ROWS, COLUMNS, no PEOPLE, THE CONSTABLE on CELL 0, MINUTE, RIGHT, WRONG 0: how "
+            + "many CELLS. BAD.")
+    static void streets() {
         BlindBuff x = of("3x4@12;p009a");
         x.minutes(2);
         x.seed(77);
@@ -60,8 +62,8 @@ public final class PromisesTest extends Desk {
         due(y.count(7), 0);
     }
 
-    private static void person() {
-        begin("promise 3");
+    @Sentence(promise = 3, words = "A PERSON: its number. BAD; FULL: 6.")
+    static void person() {
         BlindBuff x = new BlindBuff();
         int[][] bad = {{-1, 0, 0, 0}, {5, 0, 0, 0}, {0, -1, 0, 0}, {0, 20, 0, 0}, {0, 0, -1, 0}, {0, 0, 10, 0},
             {0, 0, 0, -1}, {0, 0, 0, 64}, {LOW, 0, 0, 0}, {0, LOW, 0, 0}, {0, 0, HIGH, 0}, {0, 0, 0, HIGH}};
@@ -97,8 +99,10 @@ public final class PromisesTest extends Desk {
         due(x.of(0, 4), 0);
     }
 
-    private static void ofAPerson() {
-        begin("promise 4");
+    @Sentence(promise = 4, words =
+            "Of a PERSON: 0 KIND, 1 CELL, 2 NOISE, 3 LOOK, 4 DISGUISE, 5 whether CAUGHT (1, 0), 6 how FAR, 7 "
+            + "how LOUD to THE CONSTABLE now (CAUGHT or not), 8 as whom it would be NAMED. BAD.")
+    static void ofAPerson() {
         BlindBuff x = of("6x6@00;p129,p052,s128bd,b052,h409,l203");
         int[][] due = {
             // kind, cell, noise, look, disguise, caught, far, loud, named
@@ -150,8 +154,8 @@ public final class PromisesTest extends Desk {
         due(c.of(1, 8), 1);
     }
 
-    private static void rule() {
-        begin("promise 5");
+    @Sentence(promise = 5, words = "Of a PERSON: 0 NOISE (0 .. 9), 1 DISGUISE (a set) becomes v: what it was. BAD.")
+    static void rule() {
         BlindBuff x = of("2x3@00;p125ab,s001");
         due(x.rule(0, 0, 9), 5);
         due(x.rule(0, 0, 0), 9);
@@ -177,8 +181,8 @@ public final class PromisesTest extends Desk {
         due(x.rule(1, 1, 1), 17);
     }
 
-    private static void type() {
-        begin("promise 6");
+    @Sentence(promise = 6, words = "One letter more behind THE TAPE: how many it has. BAD: not 32 .. 126; FULL: 90.")
+    static void type() {
         BlindBuff x = new BlindBuff();
         int[] bad = {31, 127, 0, -1, 10, 255, LOW, HIGH, 65536 + 50};
         for (int letter : bad) {
@@ -209,8 +213,9 @@ public final class PromisesTest extends Desk {
         due(x.type('a'), 1);
     }
 
-    private static void city() {
-        begin("promise 7");
+    @Sentence(promise = 7, words =
+            "THE TAPE, which is empty then, is a CITY: how many PEOPLE. A FAULT (all else stays).")
+    static void city() {
         BlindBuff x = of("2x2@01;p009");
         x.minutes(1);
         x.rule(0, 1, 9);
@@ -288,8 +293,10 @@ public final class PromisesTest extends Desk {
         due(again.of(1, 0), BAD);
     }
 
-    private static void count() {
-        begin("promise 8");
+    @Sentence(promise = 8, words =
+            "0 ROWS, 1 COLUMNS, 2 PEOPLE, 3 THE CONSTABLE's CELL, 4 the MINUTE, 5 who is CAUGHT (a set), 6 "
+            + "RIGHT, 7 WRONG, 8 whom he follows in this MINUTE (NONE), 9 what may be UNDONE. BAD.")
+    static void count() {
         BlindBuff x = of("3x4@12;p035a,p005,s219");
         int[] first = {3, 4, 3, 6, 0, 0, 0, 0, 1, 0};
         // PLAIN 0 is LOUD by 5 - 2, PLAIN 1 by 5 - 3, SOFT 2 by (9 - 2) / 2: he follows the first of 3 and 3
@@ -322,8 +329,9 @@ public final class PromisesTest extends Desk {
         due(x.count(HIGH), BAD);
     }
 
-    private static void minutes() {
-        begin("promise 9");
+    @Sentence(promise = 9, words =
+            "n MINUTES (1 .. 40): who is CAUGHT then (a set). BAD; FULL: the MINUTE would be above 9999.")
+    static void minutes() {
         // ROWS first, then COLUMNS, both ways
         BlindBuff x = of("4x4@03;p309");
         int[] path = {7, 11, 15, 14, 13, 12};
@@ -388,8 +396,10 @@ public final class PromisesTest extends Desk {
         due(h.drift(1), FULL);
     }
 
-    private static void walk() {
-        begin("promise 10");
+    @Sentence(promise = 10, words =
+            "WALKED up, down, to the left, to the right (0 .. 3): the CELL. BAD; NOT: it is CAUGHT, there is "
+            + "no such CELL.")
+    static void walk() {
         BlindBuff x = of("2x3@00;p110,p000");
         due(x.walk(0, 0), 1);
         due(x.walk(0, 0), NOT);
@@ -419,8 +429,8 @@ public final class PromisesTest extends Desk {
         due(x.minutes(1), 3);
     }
 
-    private static void free() {
-        begin("promise 11");
+    @Sentence(promise = 11, words = "LET GO: who is CAUGHT then (a set). BAD; NOT: it is FREE.")
+    static void free() {
         BlindBuff x = of("2x2@00;p000,p000,p110");
         due(x.free(0), NOT);
         due(x.minutes(2), 3);
@@ -440,8 +450,9 @@ public final class PromisesTest extends Desk {
         due(x.count(6), 2);
     }
 
-    private static void drift() {
-        begin("promise 12");
+    @Sentence(promise = 12, words =
+            "A DRIFT of n MINUTES (1 .. 40): who is CAUGHT then (a set). BAD; NOT: no PEOPLE; FULL: likewise.")
+    static void drift() {
         BlindBuff x = new BlindBuff();
         due(x.drift(1), NOT);
         due(x.drift(0), BAD);
@@ -517,8 +528,8 @@ public final class PromisesTest extends Desk {
         return x;
     }
 
-    private static void undo() {
-        begin("promise 13");
+    @Sentence(promise = 13, words = "UNDONE: how many more may be. NONE: none is known.")
+    static void undo() {
         BlindBuff x = of("3x3@00;p229a,p020a");
         String a = all(x);
         x.walk(1, 1);
@@ -626,8 +637,8 @@ public final class PromisesTest extends Desk {
         due(s.undo(), NONE);
     }
 
-    private static void seed() {
-        begin("promise 14");
+    @Sentence(promise = 14, words = "THE DRAW becomes v: what it was. BAD: below 0.")
+    static void seed() {
         BlindBuff x = new BlindBuff();
         due(x.seed(0), 1);
         due(x.seed(HIGH), 0);
@@ -641,8 +652,9 @@ public final class PromisesTest extends Desk {
         due(x.seed(1), (int) ((2147483647L * 1103515245L + 12345L) & 0x7fffffffL));
     }
 
-    private static void ahead() {
-        begin("promise 15");
+    @Sentence(promise = 15, words =
+            "Behind n MINUTES: 0 where THE CONSTABLE is, 1 who is CAUGHT (a set), 2 RIGHT, 3 WRONG. BAD.")
+    static void ahead() {
         BlindBuff x = of("2x4@00;p039a,p010ab");
         x.rule(1, 1, 2);
         String was = all(x);
@@ -662,8 +674,8 @@ public final class PromisesTest extends Desk {
         due(empty.ahead(60, 0), 0);
     }
 
-    private static void next() {
-        begin("promise 16");
+    @Sentence(promise = 16, words = "NEXT: who (what 0), behind how many (1), as whom (2); NONE. BAD.")
+    static void next() {
         BlindBuff x = of("2x4@00;p039a,p020ab");
         x.rule(1, 1, 2);
         String was = all(x);
@@ -691,8 +703,8 @@ public final class PromisesTest extends Desk {
         due(of("6x6@00;h349").next(1), 14);
     }
 
-    private static void stand() {
-        begin("promise 17");
+    @Sentence(promise = 17, words = "STAND: the CELL (what 0), behind how many (1). BAD; NOT: it is CAUGHT.")
+    static void stand() {
         // all of 2 x 3 are heard: the farthest CELL takes longest
         BlindBuff x = of("2x3@00;p019");
         String was = all(x);
@@ -722,8 +734,8 @@ public final class PromisesTest extends Desk {
         }
     }
 
-    private static void hush() {
-        begin("promise 18");
+    @Sentence(promise = 18, words = "HUSH; NONE. BAD; NOT: it is CAUGHT.")
+    static void hush() {
         // FAR by 3: NOISE 3 or less is not heard
         BlindBuff x = of("2x4@00;p039");
         String was = all(x);
@@ -750,8 +762,8 @@ public final class PromisesTest extends Desk {
         }
     }
 
-    private static void mask() {
-        begin("promise 19");
+    @Sentence(promise = 19, words = "MASK: how many (what 0), which (1); NONE. BAD.")
+    static void mask() {
         BlindBuff x = of("2x2@00;p000abc,p000ab,p000f");
         String was = all(x);
         due(x.mask(0, 0), 1);
@@ -790,8 +802,8 @@ public final class PromisesTest extends Desk {
         }
     }
 
-    private static void alike() {
-        begin("promise 20");
+    @Sentence(promise = 20, words = "ALIKE: how many (what 0), the first (1; NONE). BAD.")
+    static void alike() {
         BlindBuff x = of("2x2@00;p000abc,p000f,p000ab,p000abc,p000abcdef");
         int[] many = {1, 3, 3, 6, 9, 10, 10};
         int[] first = {3, 2, 2, 2, 1, 1, 1};
@@ -815,8 +827,8 @@ public final class PromisesTest extends Desk {
         due(new BlindBuff().alike(0, 2), BAD);
     }
 
-    private static void turned() {
-        begin("promise 21");
+    @Sentence(promise = 21, words = "TURNED: how many (what 0), the first (1; NONE). BAD.")
+    static void turned() {
         // 2 x 4: from the left half he goes to 0, from the right one to 1, by what is LOUDER
         BlindBuff x = of("2x4@00;p009,p039");
         String was = all(x);
@@ -840,8 +852,8 @@ public final class PromisesTest extends Desk {
         }
     }
 
-    private static void luck() {
-        begin("promise 22");
+    @Sentence(promise = 22, words = "LUCK: above (what 0), below (1). BAD.")
+    static void luck() {
         // LOUD by 5, 5, 8, 0, 4
         BlindBuff x = of("2x6@00;p016,p105,p019,p051,b050");
         String was = all(x);
@@ -881,8 +893,8 @@ public final class PromisesTest extends Desk {
         }
     }
 
-    private static void image() {
-        begin("promise 23");
+    @Sentence(promise = 23, words = "All but SHEETS, THE TAPE is kept as an IMAGE: 1.")
+    static void image() {
         BlindBuff x = of("3x3@00;p229a,p020a");
         x.minutes(2);
         x.walk(1, 1);
@@ -937,8 +949,8 @@ public final class PromisesTest extends Desk {
         same(x, start);
     }
 
-    private static void restore() {
-        begin("promise 24");
+    @Sentence(promise = 24, words = "All is as it was then: 1. NONE: there is none.")
+    static void restore() {
         BlindBuff x = new BlindBuff();
         due(x.restore(), NONE);
         x.image();
@@ -967,8 +979,10 @@ public final class PromisesTest extends Desk {
         due(x.undo(), NONE);
     }
 
-    private static void seen() {
-        begin("promise 25");
+    @Sentence(promise = 25, words =
+            "SEEN by n items of a SHEET taken as a row of a LANE, from item i on: how many (what 0), the first "
+            + "(1; NONE). BAD; NULL; CAST; INDEX.")
+    static void seen() {
         // the film is 1, 2, 3: on 1 he is from 0 or up from 5, on 3 from 2, from 3 itself or up from 7
         BlindBuff x = of("2x4@00;p039");
         String was = all(x);
@@ -1019,8 +1033,10 @@ public final class PromisesTest extends Desk {
         }
     }
 
-    private static void film() {
-        begin("promise 26");
+    @Sentence(promise = 26, words =
+            "Where THE CONSTABLE is behind 1, 2, .. n MINUTES (1 .. 24), an item each, comes to a SHEET "
+            + "likewise: n. BAD; NULL; CAST; INDEX.")
+    static void film() {
         BlindBuff x = of("2x4@00;p039");
         String was = all(x);
         for (int lane = 0; lane < 4; lane++) {
@@ -1052,8 +1068,8 @@ public final class PromisesTest extends Desk {
         }
     }
 
-    private static void sheet() {
-        begin("promise 27");
+    @Sentence(promise = 27, words = "A SHEET holds a new row of a LANE: n. BAD: also n above 24; SIZE: n below 0.")
+    static void sheet() {
         BlindBuff x = of("2x4@00;p039");
         due(x.sheet(0, 0, 0), 0);
         due(x.sheet(1, 1, 1), 1);
@@ -1083,8 +1099,8 @@ public final class PromisesTest extends Desk {
         due(x.item(1, 2, 1, 9), INDEX);
     }
 
-    private static void drop() {
-        begin("promise 28");
+    @Sentence(promise = 28, words = "A SHEET holds nothing: how many items it had. BAD; NULL.")
+    static void drop() {
         BlindBuff x = new BlindBuff();
         due(x.drop(0), NULL);
         for (int s = 0; s < 4; s++) {
@@ -1103,8 +1119,10 @@ public final class PromisesTest extends Desk {
         }
     }
 
-    private static void item() {
-        begin("promise 29");
+    @Sentence(promise = 29, words =
+            "Item i of a SHEET, taken as a row of a LANE, becomes v, its lowest bits: 1. BAD; NULL; CAST; "
+            + "INDEX.")
+    static void item() {
         BlindBuff x = of("2x4@00;p039");
         long[] one = {1L + 256, 1L + 65536, 1L + (1L << 32), 1L};
         long[] other = {1L + 128, 1L + 256, 1L + 65536, 1L + (1L << 32)};
@@ -1131,8 +1149,10 @@ public final class PromisesTest extends Desk {
         }
     }
 
-    private static void copy() {
-        begin("promise 30");
+    @Sentence(promise = 30, words =
+            "n items of a SHEET from i on come to another one (or the same) from j on, as if all were taken "
+            + "ahead: n. BAD; NULL (either); CAST: of unlike LANES; INDEX.")
+    static void copy() {
         BlindBuff x = of("2x4@00;p039");
         x.sheet(0, 1, 6);
         x.sheet(1, 1, 4);
@@ -1175,37 +1195,7 @@ public final class PromisesTest extends Desk {
         }
     }
 
-    public static void main(String[] args) {
-        aNewObject();
-        streets();
-        person();
-        ofAPerson();
-        rule();
-        type();
-        city();
-        count();
-        minutes();
-        walk();
-        free();
-        drift();
-        undo();
-        seed();
-        ahead();
-        next();
-        stand();
-        hush();
-        mask();
-        alike();
-        turned();
-        luck();
-        image();
-        restore();
-        seen();
-        film();
-        sheet();
-        drop();
-        item();
-        copy();
-        end("all promises are as due");
+    public static void main(String[] args) throws Exception {
+        runWhole(PromisesTest.class, 1, 30);
     }
 }

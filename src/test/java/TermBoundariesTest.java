@@ -1007,6 +1007,6 @@ public final class TermBoundariesTest extends Edges {
     }
 
     public static void main(String[] args) throws Exception {
-        runAll(TermBoundariesTest.class, 0, 0);
+        runEdges(TermBoundariesTest.class, 0, 0);
     }
 }
